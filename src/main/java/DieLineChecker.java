@@ -29,16 +29,17 @@ public final class DieLineChecker {
     private final Design trial = new Design();
     private final Design[] slots = new Design[SLOTS];
     private final boolean[] slotUsed = new boolean[SLOTS];
-    private final int[] limits = {1, 3, 2, 80};
-    private final int[] weights = {1, 1, 1, 1, 1, 1, 1, 1};
     private final History history = new History();
     private final int[] text = new int[MOST_TEXT];
     private final Reader reader = new Reader();
-    private final Folding folding = new Folding();
-    private final Seams seams = new Seams();
-    private final Artwork artwork = new Artwork(folding, seams);
-    private final Findings findings = new Findings(folding, seams, artwork, limits, weights);
     private final Blank blank = new Blank();
+    // The findings hold what they rest on; the calls use the same parts.
+    private final Findings findings = new Findings();
+    private final Artwork artwork = findings.artwork;
+    private final Seams seams = findings.seams;
+    private final Folding folding = findings.folding;
+    private final int[] limits = findings.limits;
+    private final int[] weights = findings.weights;
     private int textLength = 0;
     private int latestFault = 0;
 
@@ -310,7 +311,7 @@ public final class DieLineChecker {
             return BAD;
         }
         findSeams();
-        return seams.open(folding, panel, side);
+        return seams.open(panel, side);
     }
 
     public int seamCount() {
@@ -485,7 +486,7 @@ public final class DieLineChecker {
 
     private void findSeams() {
         folding.fold(design, ALL_FOLDS);
-        seams.find(folding, limits[TOLERANCE]);
+        seams.find(limits[TOLERANCE]);
     }
 
     private int pitchFault(int axis, int gap) {
@@ -1356,7 +1357,7 @@ public final class DieLineChecker {
             // Each round makes a fold or marks a set as dead, so this bound is never reached.
             for (int round = 0; round < 4 * dead.length && made != all; round++) {
                 int next = nextFold(design, made, all & ~made, tolerance);
-                if (next != NONE) {
+                if (next != NONE && steps < order.length) {
                     order[steps] = next;
                     steps++;
                     made |= 1 << next;
@@ -1432,6 +1433,7 @@ public final class DieLineChecker {
         private static final int MOST = 360;
 
         int size = 0;
+        final Folding folding = new Folding();
         private int tolerance = 0;
         // A side is written as 4 times its panel plus its number.
         private final int[] sideP = new int[MOST];
@@ -1441,20 +1443,20 @@ public final class DieLineChecker {
         private final int[] gaps = new int[MOST];
         private final Cover cover = new Cover();
 
-        void find(Folding folding, int within) {
+        void find(int within) {
             size = 0;
             tolerance = within;
             for (int p = 0; p < folding.poseCount; p++) {
                 for (int side = 0; side < 4; side++) {
                     for (int q = p + 1; q < folding.poseCount; q++) {
-                        joinSide(folding, p, side, q);
+                        joinSide(p, side, q);
                     }
                 }
             }
         }
 
         // A fold needs no care here: the two sides lie on each other there, so they meet with the gap 0.
-        private void joinSide(Folding folding, int p, int side, int q) {
+        private void joinSide(int p, int side, int q) {
             Pose one = folding.poseAt(p);
             Pose other = folding.poseAt(q);
             for (int otherSide = 0; otherSide < 4; otherSide++) {
@@ -1531,7 +1533,7 @@ public final class DieLineChecker {
         }
 
         /** The open length of a side. */
-        int open(Folding folding, int panel, int side) {
+        int open(int panel, int side) {
             if (side < 0 || side > 3) {
                 return 0;
             }
@@ -1554,19 +1556,14 @@ public final class DieLineChecker {
         private int py = 0;
         private int onto = NONE;
         private int image = NONE;
-        private final Folding folding;
-        private final Seams seams;
+        final Seams seams = new Seams();
+        private final Folding folding = seams.folding;
         // Three points of both panels of a seam: the lower end of the segment, its upper end,
         // and the lower end moved by one unit out of p and into q. Those of q stand behind those of p.
         private final int[] pointX = new int[6];
         private final int[] pointY = new int[6];
         private final int[] us = new int[6];
         private final int[] vs = new int[6];
-
-        Artwork(Folding itsFolding, Seams itsSeams) {
-            folding = itsFolding;
-            seams = itsSeams;
-        }
 
         // The point (a, b) of the turned image at which the point (u, v) of an image comes to lie.
 
@@ -1782,20 +1779,12 @@ public final class DieLineChecker {
 
         int size = 0;
         long sum = 0;
+        final int[] limits = {1, 3, 2, 80};
+        final int[] weights = {1, 1, 1, 1, 1, 1, 1, 1};
+        final Artwork artwork = new Artwork();
+        final Seams seams = artwork.seams;
+        final Folding folding = seams.folding;
         private final long[] keys = new long[MOST];
-        private final Folding folding;
-        private final Seams seams;
-        private final Artwork artwork;
-        private final int[] limits;
-        private final int[] weights;
-
-        Findings(Folding itsFolding, Seams itsSeams, Artwork itsArtwork, int[] itsLimits, int[] itsWeights) {
-            folding = itsFolding;
-            seams = itsSeams;
-            artwork = itsArtwork;
-            limits = itsLimits;
-            weights = itsWeights;
-        }
 
         private int limit(int which) {
             return which >= 0 && which < limits.length ? limits[which] : 0;
@@ -1809,7 +1798,7 @@ public final class DieLineChecker {
             size = 0;
             sum = 0;
             folding.fold(design, ALL_FOLDS);
-            seams.find(folding, limit(TOLERANCE));
+            seams.find(limit(TOLERANCE));
             collectPairs(design);
             for (int panel = 0; panel < design.panelCount; panel++) {
                 Panel own = design.panelAt(panel);
@@ -1843,7 +1832,7 @@ public final class DieLineChecker {
                 return;
             }
             for (int side = 0; side < 4; side++) {
-                add(OPEN, panel, side, NONE, seams.open(folding, panel, side));
+                add(OPEN, panel, side, NONE, seams.open(panel, side));
             }
         }
 
@@ -1948,7 +1937,7 @@ public final class DieLineChecker {
         boolean anyOpen(Design design) {
             for (int panel = 0; panel < design.panelCount; panel++) {
                 for (int side = 0; side < 4; side++) {
-                    if (!design.panelAt(panel).isFlap() && seams.open(folding, panel, side) > 0) {
+                    if (!design.panelAt(panel).isFlap() && seams.open(panel, side) > 0) {
                         return true;
                     }
                 }
@@ -1964,7 +1953,7 @@ public final class DieLineChecker {
                     return false;
                 }
             }
-            seams.find(folding, tolerance);
+            seams.find(tolerance);
             return !anyOpen(design);
         }
 
