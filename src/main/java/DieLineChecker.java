@@ -717,11 +717,10 @@ public final class DieLineChecker {
             next.length = length;
             next.depth = depth;
             next.angle = angle;
-            layOut(next);
+            layOut(next, panelAt(parent));
         }
 
-        private void layOut(Panel own) {
-            Panel above = panelAt(own.parent);
+        private static void layOut(Panel own, Panel above) {
             boolean acrossX = (own.side & 1) == 0;
             own.width = acrossX ? own.length : own.depth;
             own.height = acrossX ? own.depth : own.length;
@@ -731,7 +730,8 @@ public final class DieLineChecker {
 
         void layOutAll() {
             for (int i = 1; i < panelCount; i++) {
-                layOut(panelAt(i));
+                Panel own = panelAt(i);
+                layOut(own, panelAt(own.parent));
             }
         }
 
@@ -1236,8 +1236,9 @@ public final class DieLineChecker {
             return axis >= 0 && axis < 3 ? high[axis] : 0;
         }
 
+        /** The length that both panels have in common on an axis; 0 or less if there is no common part. */
         int commonOn(int axis, Pose other) {
-            return common(lowOn(axis), highOn(axis), other.lowOn(axis), other.highOn(axis));
+            return Math.min(highOn(axis), other.highOn(axis)) - Math.max(lowOn(axis), other.lowOn(axis));
         }
 
         /** Whether the plane of another panel lies more than the tolerance inside the extent of this one. */
