@@ -185,6 +185,10 @@ public final class FindingsTest {
         due.is("43 other panel", x.panelCost(3), 2);
         x.setLimit(1, 1);
         countIs("only touched", x, 0);
+        x.setSize(3, 0, 0);
+        countIs("a strip of 1", x, 1);
+        due.finding("a strip of 1", x, 0, 5, 0, 1, 3, 1, 1);
+        x.setSize(3, 0, 1);
         x.setLimit(1, 20);
         // Now the strip at the north is 20 high, but only panel 1 is above the base.
         countIs("the whole panel", x, 1);
@@ -375,6 +379,16 @@ public final class FindingsTest {
         x.setSize(5, 2, 100);
         due.is("44 all are equal", x.bestDepth(5), 100);
         due.is("44 acts", acts, 6 + 3);
+
+        DieLineChecker z = withBase(50, 50, 20, 20);
+        z.addPanel(0, 1, 0, 20, 5, 1);
+        z.addPanel(1, 1, 0, 20, 10, 1);
+        z.addPanel(2, 1, 0, 20, 12, 1);
+        only(z, 1);
+        // Panel 3 crosses the base if panel 2 is 2 to 18 deep; 1 and 19 are equally near.
+        due.is("44 the smaller one", z.bestDepth(2), 1);
+        z.setSize(2, 2, 11);
+        due.is("44 the nearer one", z.bestDepth(2), 19);
 
         DieLineChecker y = new DieLineChecker();
         y.setSheet(300, 300);

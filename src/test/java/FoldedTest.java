@@ -14,6 +14,7 @@ public final class FoldedTest {
         volumes();
         tolerances();
         crossingPanels();
+        crossingPairs();
         crossingLimits();
         orders();
         due.end();
@@ -193,6 +194,12 @@ public final class FoldedTest {
         x.setFlap(2, 0);
         due.is("33 beside it", x.coverage(2), 0);
 
+        DieLineChecker dot = withBase(50, 60, 2, 1);
+        dot.addPanel(0, 1, 0, 1, 1, 2);
+        dot.addPanel(1, 1, 0, 1, 1, 2);
+        dot.setFlap(2, 0);
+        due.is("33 the smallest flap", dot.coverage(2), 100);
+
         DieLineChecker y = withBase(50, 60, 20, 10);
         y.addPanel(0, 1, 0, 10, 2, 1);
         y.addPanel(1, 1, 0, 10, 4, -1);
@@ -309,6 +316,37 @@ public final class FoldedTest {
         due.finding("40 crossing", x, 0, 1, 0, NONE, 4, 10);
     }
 
+    private static void crossingPairs() {
+        // Panel 2 goes back below the base, from x 90 to 130, through panel 3, which hangs at x 110.
+        DieLineChecker x = withBase(90, 90, 20, 20);
+        x.addPanel(0, 3, 0, 20, 20, 1);
+        x.addPanel(1, 3, 0, 20, 40, 1);
+        x.addPanel(0, 1, 0, 20, 30, 1);
+        due.is("36 neighbours in number", x.crossings(14), 1);
+        x.setSize(2, 1, 1);
+        due.is("36 a common length of 1", x.crossings(14), 1);
+        x.setSize(2, 0, 19);
+        due.is("36 and at the end", x.crossings(14), 1);
+        x.setSize(3, 1, 19);
+        due.is("36 they touch only", x.crossings(14), 0);
+        x.setSize(3, 1, 20);
+        x.setSize(2, 0, 0);
+        x.setSize(2, 1, 20);
+        x.setSize(2, 2, 60);
+        x.addPanel(0, 2, 0, 20, 5, -1);
+        due.is("36 an upright panel more", x.crossings(30), 1);
+        x.addPanel(3, 1, 0, 20, 5, 0);
+        due.is("36 as deep as that", x.crossings(62), 1);
+        x.setSize(3, 2, 15);
+        x.setSize(5, 2, 15);
+        due.is("36 through the lower half instead", x.crossings(62), 1);
+        x.addPanel(5, 1, 0, 20, 30, -1);
+        due.is("37 no order", x.foldStep(0), NONE);
+        x.setSize(2, 2, 18);
+        due.is("36 free again", x.crossings(126), 0);
+        due.is("37 an order again", x.foldStep(0), 1);
+    }
+
     private static void crossingLimits() {
         DieLineChecker x = spiral();
         x.setLimit(0, 4);
@@ -365,5 +403,17 @@ public final class FoldedTest {
         due.is("36 dead end with 3", x.crossings(2 + 4 + 8), 1);
         due.is("36 dead end with 4", x.crossings(2 + 4 + 16), 1);
         orderIs(x, 1, 3, 4, 2);
+        x.setLimit(0, 0);
+        x.setBase(90, 90, 20, 20);
+        x.addPanel(0, 0, 0, 20, 40, 1);
+        x.addPanel(0, 2, 0, 20, 5, 1);
+        x.addPanel(2, 2, 0, 20, 10, 1);
+        x.addPanel(3, 2, 0, 20, 5, 1);
+        x.addPanel(4, 2, 0, 20, 40, 1);
+        // When panel 1 hangs down, no two of the others can be folded: the rest of their row would go through it.
+        due.is("36 with 2 and 3", x.crossings(2 + 4 + 8) > 0 ? 1 : 0, 1);
+        due.is("36 with 3 and 5", x.crossings(2 + 8 + 32) > 0 ? 1 : 0, 1);
+        due.is("36 with 4 and 5", x.crossings(2 + 16 + 32) > 0 ? 1 : 0, 1);
+        orderIs(x, 2, 3, 4, 1, 5);
     }
 }

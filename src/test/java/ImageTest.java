@@ -14,6 +14,7 @@ public final class ImageTest {
         continuedEveryWay();
         notContinued();
         spread();
+        spreadBack();
         spreadFromOthers();
         due.end();
     }
@@ -150,7 +151,13 @@ public final class ImageTest {
         x.place(1, 0, 6, -150, -180);
         // Upside down, and u rises: 150 at the fold; v is 200 - (y + 180): 20 and 10.
         due.is("32 v upside down, u as before", x.seam(0, 7), 50);
-        due.is("39 panel 0 reach", x.reach(0, 1), 0);
+        x.place(0, 0, 0, -100, -10);
+        x.place(1, 0, 6, -120, -160);
+        // u is 120 on both; v is 10 to 20 on panel 0, and 40 to 30 on panel 1.
+        due.is("32 most at the lower end", x.seam(0, 7), 30);
+        x.place(1, 0, 6, -120, -190);
+        // Now v is 10 to 0 on panel 1.
+        due.is("32 most at the upper end", x.seam(0, 7), 20);
     }
 
     private static void continued() {
@@ -307,6 +314,21 @@ public final class ImageTest {
         due.is("17 back", x.spreadImage(1), 2);
         due.is("17 u on panel 0", x.imageAt(0, 0, 0, 0), 0);
         due.is("17 u on panel 2 then", x.imageAt(2, 0, 0, 0), 20);
+    }
+
+    /** Each seam is tried in both directions. */
+    private static void spreadBack() {
+        for (int from = 1; from <= 4; from++) {
+            DieLineChecker x = withBase(50, 50, 10, 10);
+            for (int side = 0; side < 4; side++) {
+                x.addPanel(0, side, 0, 10, 10, 0);
+            }
+            due.is("31 folds only", x.seamCount(), 4);
+            x.defineImage(0, 60, 60);
+            x.place(from, 0, 0, -25, -25);
+            due.is("17 from panel " + from, x.spreadImage(from), 4);
+            due.is("17 no breaks", x.seam(0, 7) + x.seam(1, 7) + x.seam(2, 7) + x.seam(3, 7), 0);
+        }
     }
 
     /** The image goes on from every panel on which it is placed, not only from the named one. */

@@ -131,6 +131,14 @@ public final class TextTest {
         reading("b0 0 9 9;p0 1 0 9 5 1;f1 0;", 3, 0);
         reading("i0 5 5;a0 0 0 0 0;", -27, 3);
         reading("b0 0 9 9;a0 0 0 0 0;", -29, 3);
+        reading("b0 0 9 9;i0 5 5;a1 0 0 0 0;", -36, 3);
+        reading("b0 0 9 9;i0 5 5;a0 4 0 0 0;", -36, 3);
+        reading("b0 0 9 9;i0 5 5;a0 1 0 0 0;", -36, 3);
+        reading("b0 0 9 9;i0 5 5;a0 0 8 0 0;", -36, 3);
+        reading("b0 0 9 9;i0 5 5;a0 0 0 301 0;", -38, 3);
+        reading("b0 0 9 9;i0 5 5;a0 0 0 0 301;", -38, 3);
+        reading("b0 0 9 9;i0 5 5;a0 0 0 -301-301;", -41, 3);
+        reading("b0 0 9 9;i0 5 5;a0 0 0 300-300;", 3, 0);
         reading("i4 5 5;", -16, 3);
         reading("i0 0 5;", -16, 3);
         reading("b100 1 9 9;s50 50;", -27, 3);
@@ -155,6 +163,10 @@ public final class TextTest {
         due.is("4 u", x.imageAt(1, 0, 0, 0), 26);
         due.is("4 v", x.imageAt(1, 0, 0, 1), 35);
         due.is("4 sheet", x.setSheet(100, 100), 150);
+        due.write(x, "i0 5 5;i1 5 5;i2 5 5;i3 5 5;");
+        due.is("4 images alone", x.load(), 4);
+        due.is("4 all of them", x.count(6), 4);
+        due.is("4 no panels", x.count(0), 0);
         due.write(x, "b0 0 9 9;b1 1 8 8;");
         due.is("4 two bases", x.load(), 2);
         due.is("4 the second base", x.flat(0, 2), 8);
