@@ -1000,6 +1000,9 @@ public final class DieLineChecker {
         }
 
         private void takeByte(int[] text, int length, int at) {
+            if (at < 0 || at >= text.length) {
+                return;
+            }
             int letter = text[at];
             if (isDigit(letter) || letter == '-') {
                 // The other bytes of a number have been read with its first one.
@@ -1017,6 +1020,9 @@ public final class DieLineChecker {
         }
 
         private void takeNumber(int[] text, int length, int at) {
+            if (at < 0 || at >= text.length) {
+                return;
+            }
             boolean negative = text[at] == '-';
             int digits = 0;
             int value = 0;
@@ -1458,6 +1464,9 @@ public final class DieLineChecker {
 
         // A fold needs no care here: the two sides lie on each other there, so they meet with the gap 0.
         private void joinSide(int p, int side, int q) {
+            if (side < 0 || side > 3) {
+                return;
+            }
             Pose one = folding.poseAt(p);
             Pose other = folding.poseAt(q);
             for (int otherSide = 0; otherSide < 4; otherSide++) {

@@ -120,6 +120,19 @@ final class Boundary {
         return got.size() + " answers, due are " + due.size();
     }
 
+    /** Two states that no call of some runs can tell from each other. */
+    static void same(String what, Setup one, Setup other, int runs) {
+        for (int run = 0; run < runs; run++) {
+            List<String> got = Later.answers(run, made(one));
+            List<String> due = Later.answers(run, made(other));
+            asked++;
+            if (!got.equals(due)) {
+                wrong++;
+                System.out.println(name + ": " + what + " is not the same: " + firstChange(got, due));
+            }
+        }
+    }
+
     /** The last arguments that are still taken, with their answers, and the first ones that are refused with BAD. */
     static void range(String what, Setup setup, Taking call, int low, long atLow, int high, long atHigh) {
         taken(what + " " + low, setup, x -> call.with(x, low), atLow);

@@ -233,6 +233,31 @@ public final class BoundaryDesignTest {
         }), x -> x.removeLast(), STATE);
     }
 
+    private static void promise9NothingOfItIsLeft() {
+        // As many acts on both, so that the same number can be undone.
+        Boundary.same("a removed flap with an image", x -> {
+            States.SMALL.on(x);
+            x.addPanel(0, 0, 0, 5, 3, 2);
+            x.setFlap(3, 0);
+            x.place(3, 1, 0, -1, -1);
+            x.removeLast();
+        }, x -> {
+            States.SMALL.on(x);
+            for (int i = 0; i < 4; i++) {
+                x.setLimit(0, 1);
+            }
+        }, Later.QUERIES);
+        Boundary.same("an undone flap with an image", x -> {
+            States.SMALL.on(x);
+            x.addPanel(0, 0, 0, 5, 3, 2);
+            x.setFlap(3, 0);
+            x.place(3, 1, 0, -1, -1);
+            x.undo();
+            x.undo();
+            x.undo();
+        }, States.SMALL, Later.RUNS.size());
+    }
+
     // ---- promise 10
 
     private static void promise10PanelOtherThanTheBase() {
@@ -525,6 +550,10 @@ public final class BoundaryDesignTest {
         Boundary.refused("1 into panel 3", both, x -> x.addPanel(2, 0, 0, 10, 11, 1), CLASH);
         Boundary.taken("beside panel 3", both, x -> x.addPanel(2, 0, 5, 5, 20, 1), 4);
         Boundary.refused("1 over panel 3", both, x -> x.addPanel(2, 0, 4, 6, 20, 1), CLASH);
+        // Panel 3 now comes down at x 75 to 80; a panel on its west side goes toward the base.
+        Boundary.Setup around = then(hook, x -> x.addPanel(2, 0, 5, 5, 10, 1));
+        Boundary.taken("up to the base", around, x -> x.addPanel(3, 3, 0, 5, 5, 1), 4);
+        Boundary.refused("1 into the base", around, x -> x.addPanel(3, 3, 0, 5, 6, 1), CLASH);
     }
 
     private static void termsTheBaseIsNoFlap() {

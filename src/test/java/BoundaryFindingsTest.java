@@ -280,6 +280,16 @@ public final class BoundaryFindingsTest {
         }
     }
 
+    private static void promise45TheGreatestAngle() {
+        // Folded back the panel covers the base, and all sides meet; with each other angle six sides are open.
+        for (int angle = -1; angle <= 2; angle++) {
+            DieLineChecker x = based(50, 50, 20, 20);
+            x.addPanel(0, 1, 0, 20, 20, angle);
+            Boundary.only(x, 0);
+            is("from " + angle, x.bestAngle(1), 2);
+        }
+    }
+
     private static void promise45OfSeveralTheSmallest() {
         // A tray without its east side: up or down, that side can close it or not.
         DieLineChecker x = based(50, 50, 20, 20);
@@ -474,6 +484,40 @@ public final class BoundaryFindingsTest {
         one("ink from 18 to 20", x, 5, 0, 1, 3, 3, 3);
     }
 
+    private static void termsIntrusionAtTheBeginningOfTheSide() {
+        // Panel 2 lies right of panel 1, which hangs on the south side: it ends where the base's east side begins.
+        DieLineChecker x = based(50, 50, 20, 20);
+        x.addPanel(0, 0, 0, 20, 5, 1);
+        x.addPanel(1, 1, 0, 5, 20, 1);
+        x.defineImage(0, 60, 60);
+        x.place(0, 0, 0, -5, -10);
+        Boundary.only(x, 5);
+        none("below the side, where the image is too", x);
+        x.addPanel(2, 2, 0, 10, 1, 1);
+        one("the first unit of the side", x, 5, 0, 1, 3, 3, 3);
+        x.place(0, 0, 0, -5, 0);
+        one("ink from 0 on", x, 5, 0, 1, 3, 3, 3);
+        x.place(0, 0, 0, -5, 1);
+        none("ink from 1 on", x);
+    }
+
+    private static void termsIntrusionAtTheBeginningOfAnUpperSide() {
+        // As before, at the base's north side: panel 1 hangs on the west side, and panel 2 on its north side.
+        DieLineChecker x = based(50, 50, 20, 20);
+        x.addPanel(0, 3, 0, 20, 5, 1);
+        x.addPanel(1, 2, 0, 5, 20, 1);
+        x.defineImage(0, 60, 60);
+        x.place(0, 0, 0, -10, -5);
+        Boundary.only(x, 5);
+        none("left of the side, where the image is too", x);
+        x.addPanel(2, 1, 0, 10, 1, 1);
+        one("the first unit of the side", x, 5, 0, 2, 3, 3, 3);
+        x.place(0, 0, 0, 0, -5);
+        one("ink from 0 on", x, 5, 0, 2, 3, 3, 3);
+        x.place(0, 0, 0, 1, -5);
+        none("ink from 1 on", x);
+    }
+
     private static void termsIntrusionNotOfPanelsThatHangThere() {
         DieLineChecker x = printed(-20, -20);
         x.addPanel(0, 1, 0, 20, 10, 1);
@@ -513,26 +557,25 @@ public final class BoundaryFindingsTest {
     }
 
     private static void termsInkAboveTheGlueBleed() {
-        DieLineChecker x = based(50, 50, 20, 20);
-        x.addPanel(0, 1, 0, 20, 10, 1);
-        x.setFlap(1, 0);
-        x.defineImage(0, 8, 8);
-        Boundary.only(x, 6);
-        // The glue bleed is 2; the image ends px + 8 units from the near side.
-        x.place(1, 0, 0, -8, 0);
-        none("not shown", x);
-        x.place(1, 0, 0, -7, 0);
-        none("1", x);
-        x.place(1, 0, 0, -6, 0);
-        none("2", x);
-        x.place(1, 0, 0, -5, 0);
-        one("3", x, 6, 1, NONE, NONE, 1, 1);
-        x.place(1, 0, 0, 2, 0);
-        one("10", x, 6, 1, NONE, NONE, 8, 8);
-        x.place(1, 0, 0, 9, 0);
-        one("beyond the flap", x, 6, 1, NONE, NONE, 8, 8);
-        x.place(1, 0, 0, 10, 0);
-        none("not shown beyond", x);
+        for (int side = 0; side < 4; side++) {
+            DieLineChecker x = based(50, 50, 20, 20);
+            x.addPanel(0, side, 0, 20, 10, 1);
+            x.setFlap(1, 0);
+            x.defineImage(0, 8, 8);
+            Boundary.only(x, 6);
+            // The glue bleed is 2. The flap is 10 deep, and the image ends some units from its near side.
+            int[] ends = {0, 1, 2, 3, 10, 17, 18};
+            int[] amounts = {0, 0, 0, 1, 8, 8, 0};
+            for (int i = 0; i < ends.length; i++) {
+                int place = side == 1 || side == 2 ? ends[i] - 8 : 10 - ends[i];
+                x.place(1, 0, 0, side % 2 == 1 ? place : 5, side % 2 == 1 ? 5 : place);
+                if (amounts[i] == 0) {
+                    none("side " + side + ", end " + ends[i], x);
+                } else {
+                    one("side " + side + ", end " + ends[i], x, 6, 1, NONE, NONE, amounts[i], amounts[i]);
+                }
+            }
+        }
     }
 
     private static void termsBreakAboveTheTolerance() {

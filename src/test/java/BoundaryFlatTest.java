@@ -158,6 +158,25 @@ public final class BoundaryFlatTest {
         is("turned along x with the gap 11", y.pitch(0, 11, true), 41);
     }
 
+    private static void promise26AShiftBeforeAnotherThatIsTaken() {
+        // A wave: panel 0 at x 20 to 22 and y 40 to 50, 2 at x 23 to 24 and y 29 to 49, 4 at x 28 to 29 and y 30 to 41,
+        // and rows from x 20 to 24 above and from 23 to 29 below. The shifts 1 to 5 are taken, by the row below;
+        // 7 and 8 are taken, by panel 4 on panel 0; 6 is free, and so are 12 and all further ones.
+        DieLineChecker x = based(20, 40, 2, 10);
+        x.addPanel(0, 1, 9, 1, 2, 0);
+        x.addPanel(1, 0, 1, 1, 20, 0);
+        x.addPanel(2, 1, 0, 1, 5, 0);
+        x.addPanel(3, 2, 4, 1, 11, 0);
+        is("panels", x.count(0), 5);
+        is("6", x.pitch(0, 0, false), 6);
+        // With the gap 1 the row below takes up to 6, and panel 4 from 6 on, up to 9.
+        is("with a gap", x.pitch(0, 1, false), 10);
+        is("6 in a row", x.rowCount(0, 0), 1 + (300 - 9) / 6);
+        // When panel 4 ends where panel 0 begins, they are never too near.
+        x.setSize(4, 2, 10);
+        is("6 as before", x.pitch(0, 0, false), 6);
+    }
+
     // ---- promise 27
 
     private static void promise27AxisFrom0To1() {
@@ -192,6 +211,26 @@ public final class BoundaryFlatTest {
         is("half of it", y.rowCount(0, 0), 2);
         is("half of it with a gap", y.rowCount(0, 1), 1);
         is("1 more than half of it", y.rowCount(1, 0), 1);
+    }
+
+    private static void promise27TheExtentOfTheSheetOnThisAxis() {
+        DieLineChecker x = new DieLineChecker();
+        x.setSheet(100, 60);
+        x.setBase(0, 0, 10, 10);
+        is("along x", x.rowCount(0, 0), 10);
+        is("along y", x.rowCount(1, 0), 6);
+        x.setSheet(99, 59);
+        is("1 less along x", x.rowCount(0, 0), 9);
+        is("1 less along y", x.rowCount(1, 0), 5);
+    }
+
+    private static void promise27TheExtentOfAllPanels() {
+        // Panel 1 lies left of the base: both together go from x 20 to 40; the pitch is 20.
+        DieLineChecker x = based(30, 30, 10, 10);
+        x.addPanel(0, 3, 0, 10, 10, 1);
+        is("20 of 300", x.rowCount(0, 0), 15);
+        x.setSheet(299, 300);
+        is("20 of 299", x.rowCount(0, 0), 14);
     }
 
     private static void promise27TheGreatestNumber() {

@@ -260,6 +260,25 @@ public final class BoundaryFoldedTest {
         is("a flap that stands out", x.volume(), 1000);
     }
 
+    private static void promise34AnOpenLengthOf1() {
+        // The lid lacks 2 units, which a flap closes but for its last ones: with the length 19 it is 1 away from the
+        // wall, within the tolerance; with 18 the lid, the wall behind it and the wall beside it are open by 1 each.
+        for (int length = 18; length <= 20; length++) {
+            DieLineChecker x = box(20, 10, 5);
+            x.setSize(5, 2, 8);
+            x.addPanel(5, 2, 0, length, 2, 0);
+            x.setFlap(6, 1);
+            int open = 0;
+            for (int p = 0; p < 6; p++) {
+                for (int side = 0; side < 4; side++) {
+                    open = Math.max(open, x.openLength(p, side));
+                }
+            }
+            is("the greatest open length with " + length, open, length == 18 ? 1 : 0);
+            is("volume with " + length, x.volume(), length == 18 ? STATE : 2800 / 3);
+        }
+    }
+
     private static void promise34RoundedDown() {
         // The lid is 1 short: its area lacks 1 * 20 at the distance 5 from the base, of 3000 in all.
         DieLineChecker x = box(20, 10, 5);
@@ -436,6 +455,17 @@ public final class BoundaryFoldedTest {
         crossIs("1 inside the west", spiral(5, 19, 12), 0);
     }
 
+    private static void termsAFoldThatIsNotMadeHasTheAngle0() {
+        DieLineChecker x = spiral(5, 10, 12);
+        is("all folds", x.crossings(14), 1);
+        is("without panel 1", x.crossings(12), 0);
+        is("without panel 2", x.crossings(10), 0);
+        is("without panel 3", x.crossings(6), 0);
+        is("none", x.crossings(0), 0);
+        x.setAngle(3, 0);
+        is("panel 3 with the angle 0, made", x.crossings(14), 0);
+    }
+
     private static void termsCrossingWithoutATolerance() {
         DieLineChecker x = spiral(1, 10, 12);
         x.setLimit(0, 0);
@@ -597,6 +627,19 @@ public final class BoundaryFoldedTest {
         x.addPanel(0, 2, 0, 5, 9, 1);
         x.addPanel(0, 2, 8, 5, 9, -1);
         int[] open = {10, 7, 5};
+        for (int tolerance = 0; tolerance <= 2; tolerance++) {
+            x.setLimit(0, tolerance);
+            is("tolerance " + tolerance, x.openLength(0, 2), open[tolerance]);
+        }
+    }
+
+    private static void termsSegmentsInAnyOrder() {
+        // Folds at 12 to 16, 0 to 3 and 6 to 9, in this order of the panels.
+        DieLineChecker x = based(50, 60, 20, 10);
+        x.addPanel(0, 2, 12, 4, 9, 1);
+        x.addPanel(0, 2, 0, 3, 8, -1);
+        x.addPanel(0, 2, 6, 3, 7, 2);
+        int[] open = {10, 5, 2};
         for (int tolerance = 0; tolerance <= 2; tolerance++) {
             x.setLimit(0, tolerance);
             is("tolerance " + tolerance, x.openLength(0, 2), open[tolerance]);

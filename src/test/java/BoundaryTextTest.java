@@ -366,6 +366,53 @@ public final class BoundaryTextTest {
         reading("b0 0 9 9;i0 5 5;a0 1 7 300-300;", -40, 3);
     }
 
+    /** An item whose numbers are tried one by one: each is taken at both ends of its range, and no further. */
+    private static void item(String before, char letter, int[] numbers, int[][] ranges) {
+        for (int i = 0; i < numbers.length; i++) {
+            for (int end = 0; end < 2; end++) {
+                for (int beyond = 0; beyond < 2; beyond++) {
+                    int[] tried = numbers.clone();
+                    tried[i] = ranges[i][end] + (end == 0 ? -beyond : beyond);
+                    StringBuilder text = new StringBuilder(before).append(letter);
+                    for (int number : tried) {
+                        text.append(' ').append(number);
+                    }
+                    int items = before.length() - before.replace(";", "").length() + 1;
+                    int semicolon = text.length();
+                    text.append(';');
+                    reading(text.toString(), beyond == 0 ? items : -10 - semicolon, beyond == 0 ? 0 : 3);
+                }
+            }
+        }
+    }
+
+    private static void termsEveryNumberOfASheetItem() {
+        item("", 's', new int[] {100, 100}, new int[][] {{20, 300}, {20, 300}});
+    }
+
+    private static void termsEveryNumberOfABaseItem() {
+        item("s90 80;", 'b', new int[] {10, 10, 10, 10}, new int[][] {{0, 80}, {0, 70}, {1, 80}, {1, 70}});
+    }
+
+    private static void termsEveryNumberOfAPanelItem() {
+        // The second panel can hang on both others; east of the base there are 20 units, and the base is 10 high.
+        item("s90 80;b60 30 10 10;p0 2 0 9 5 1;", 'p', new int[] {0, 1, 2, 3, 4, 0},
+            new int[][] {{0, 1}, {0, 3}, {0, 7}, {1, 8}, {1, 20}, {0, 3}});
+    }
+
+    private static void termsEveryNumberOfAFlapItem() {
+        item("b60 30 10 10;p0 2 0 9 5 1;p0 1 0 9 5 1;p0 3 0 9 5 1;", 'f', new int[] {3, 0}, new int[][] {{1, 3}, {0, 2}});
+    }
+
+    private static void termsEveryNumberOfAnImageItem() {
+        item("", 'i', new int[] {1, 50, 60}, new int[][] {{0, 3}, {1, 200}, {1, 200}});
+    }
+
+    private static void termsEveryNumberOfAPlacementItem() {
+        item("b60 30 10 10;p0 2 0 9 5 1;i0 9 9;i1 9 9;i2 9 9;i3 9 9;", 'a', new int[] {0, 1, 2, 3, 4},
+            new int[][] {{0, 1}, {0, 3}, {0, 7}, {-300, 300}, {-300, 300}});
+    }
+
     private static void termsAnglesOfTexts() {
         String base = "b50 50 9 9;p0 1 0 9 5 ";
         int[] angles = {0, 1, 2, -1};
@@ -411,6 +458,39 @@ public final class BoundaryTextTest {
         Boundary.write(x, "b0 0 200 200;");
         is("a sheet of 200 by 200", x.load(), 1);
         is("its width", x.flat(0, 2), 200);
+    }
+
+    private static void termsATextDoesNotBeginWithTheOneBefore() {
+        DieLineChecker x = reading("s300 300;b0 0 250 250;i0 9 9;i3 9 9;", 4, 0);
+        for (String text : new String[] {"b0 0 201 200;", "b0 0 200 201;", "p0 0 0 1 1 1;"}) {
+            Boundary.write(x, text);
+            is("load of '" + text + "'", x.load(), -22);
+        }
+        for (int image = 0; image < 4; image++) {
+            Boundary.write(x, "b0 0 9 9;a0 " + image + " 0 0 0;");
+            is("image " + image, x.load(), -29);
+        }
+        // A fault leaves nothing in the next text either.
+        Boundary.write(x, "s300 300;b0 0 250 250;i0 9 9;x");
+        is("a text with a fault", x.load(), -39);
+        Boundary.write(x, "b0 0 9 9;a0 0 0 0 0;");
+        is("the next text", x.load(), -29);
+    }
+
+    private static void termsWhatATextMakesIsTheWholeDesign() {
+        String text = "b30 30 9 8;p0 1 0 8 5 1;i0 9 9;a1 0 5 -1-2;";
+        Boundary.Setup fresh = x -> {
+            Boundary.write(x, text);
+            x.load();
+        };
+        Boundary.same("after ten panels", x -> {
+            States.TEN_PANELS.on(x);
+            for (int p = 1; p < 10; p++) {
+                x.setAngle(p, 2);
+            }
+            x.setFlap(2, 1);
+            fresh.on(x);
+        }, fresh, Later.QUERIES);
     }
 
     private static void termsTenPanelsInAText() {

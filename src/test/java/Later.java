@@ -13,6 +13,9 @@ final class Later {
     static final List<Run> RUNS = List.of(Later::flat, Later::folded, Later::seams, Later::images, Later::findings,
         Later::best, Later::undone, Later::settings, Later::slots, Later::text, Later::acts);
 
+    /** The first runs only ask: they tell the design, but not what undo() and the slots would bring. */
+    static final int QUERIES = 6;
+
     private final List<String> lines = new ArrayList<>();
 
     static List<String> answers(int run, DieLineChecker x) {
