@@ -424,6 +424,31 @@ public final class BoundaryFoldedTest {
         is("an order", x.foldStep(2), 3);
     }
 
+    private static void promise37NoOrderAlthoughAllFoldsTogetherDoNotCross() {
+        DieLineChecker x = based(140, 140, 1, 5);
+        x.setLimit(0, 0);
+        x.addPanel(0, 3, 4, 1, 1, 1);
+        x.addPanel(1, 3, 0, 1, 8, 1);
+        x.addPanel(2, 0, 5, 2, 4, 0);
+        x.addPanel(0, 1, 2, 1, 8, 1);
+        x.addPanel(4, 2, 0, 8, 5, 1);
+        is("panels", x.count(0), 6);
+        is("all four folds", x.crossings(2 + 4 + 16 + 32), 0);
+        // Whichever fold is the last one, panels cross before it.
+        is("without panel 1", x.crossings(4 + 16 + 32), 1);
+        is("without panel 2", x.crossings(2 + 16 + 32), 1);
+        is("without panel 4", x.crossings(2 + 4 + 32), 1);
+        is("without panel 5", x.crossings(2 + 4 + 16), 1);
+        for (int k = 0; k < 5; k++) {
+            is("step " + k, x.foldStep(k), NONE);
+        }
+        x.setAngle(5, 0);
+        is("three folds cross", x.foldStep(0), NONE);
+        x.setAngle(4, 0);
+        is("two folds do not", x.foldStep(0), 1);
+        is("the second one", x.foldStep(1), 2);
+    }
+
     // ---- the section "Terms"
 
     /** A chain that goes down, back below the base, and up again. */
