@@ -177,6 +177,20 @@ public final class BoundaryFlatTest {
         is("6 as before", x.pitch(0, 0, false), 6);
     }
 
+    private static void promise26OneTurnedCopyOnly() {
+        // The base at x 50 to 54 and y 50 to 55, panel 1 at x 41 to 50 and y 53 to 54, panel 2 at x 43 to 45 and
+        // y 48 to 53. Turned, the base is at x 41 to 45 and y 48 to 53, panel 2 at x 50 to 52 and y 50 to 55: the
+        // shifts 1 to 3 and 6 to 12 are taken. That 8 is taken does not matter, as there is only one copy.
+        DieLineChecker x = based(50, 50, 4, 5);
+        x.addPanel(0, 3, 3, 1, 9, 0);
+        x.addPanel(1, 0, 2, 2, 5, 0);
+        is("panels", x.count(0), 3);
+        is("turned", x.pitch(0, 0, true), 4);
+        is("not turned", x.pitch(0, 0, false), 13);
+        // With the gap 1 also 4 and 5 are taken, up to 13.
+        is("turned, with a gap", x.pitch(0, 1, true), 14);
+    }
+
     // ---- promise 27
 
     private static void promise27AxisFrom0To1() {

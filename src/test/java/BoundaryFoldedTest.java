@@ -385,6 +385,16 @@ public final class BoundaryFoldedTest {
         Boundary.refused("all bits", States.TEN_PANELS, x -> x.crossings(Integer.MAX_VALUE), BAD);
     }
 
+    private static void promise36ARemovedPanelDoesNotCross() {
+        DieLineChecker x = spiral(5, 10, 12);
+        is("three panels", x.crossings(14), 1);
+        x.removeLast();
+        is("two panels", x.crossings(6), 0);
+        is("panel 3 does not exist", x.crossings(14), BAD);
+        is("no finding", x.findingCount(), 0);
+        is("an order", x.foldStep(1), 2);
+    }
+
     // ---- promise 37
 
     private static void promise37Negative() {

@@ -114,6 +114,21 @@ public final class BoundaryTextTest {
         is("all", Boundary.made(States.FULL_TEXT).clearText(), 160);
     }
 
+    private static void promise3BytesFromBeforeDoNotCount() {
+        // Each second text is the beginning of the first one, which goes on with a digit.
+        DieLineChecker x = reading("s20 2000;", -14, 1);
+        Boundary.write(x, "s20 200");
+        is("a number at the end", x.load(), -17);
+        is("its fault", x.faultKind(), 2);
+        x = reading("s-5 20;", -16, 3);
+        Boundary.write(x, "s-");
+        is("a minus sign at the end", x.load(), -11);
+        is("its fault", x.faultKind(), 1);
+        x = reading("s20 20;", 1, 0);
+        Boundary.write(x, "s20 20");
+        is("without the semicolon", x.load(), -16);
+    }
+
     private static void promise3NothingElseChanges() {
         DieLineChecker x = Boundary.made(States.RICH);
         is("clearText", x.clearText(), 10);
