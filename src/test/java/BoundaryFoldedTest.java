@@ -249,6 +249,7 @@ public final class BoundaryFoldedTest {
         is("open by 2 with the tolerance 1", x.volume(), STATE);
         x.removeLast();
         is("a tray", x.volume(), STATE);
+        Boundary.refused("an open design", States.RICH, y -> y.volume(), STATE);
     }
 
     private static void promise34SidesOfFlapsMayBeOpen() {
