@@ -20,12 +20,15 @@ public final class RandomTest {
     private final long seed;
     // How many arguments in a hundred may be anything at all.
     private final int wildness;
+    // The greatest length that is tried often.
+    private final int size;
     private boolean wrong = false;
 
     private RandomTest(long seed) {
         this.seed = seed;
         random = new Random(seed);
         wildness = seed % 10 == 0 ? 40 : 3;
+        size = seed % 4 == 3 ? 60 : 20;
     }
 
     public static void main(String[] args) {
@@ -93,10 +96,10 @@ public final class RandomTest {
     private void start() {
         switch (random.nextInt(7)) {
             case 0:
-                carton(10 + random.nextInt(20), 10 + random.nextInt(20), 5 + random.nextInt(10));
+                carton(10 + random.nextInt(size), 10 + random.nextInt(size), 5 + random.nextInt(size / 2));
                 break;
             case 1:
-                tray(3 + random.nextInt(20), 3 + random.nextInt(20), 1 + random.nextInt(12));
+                tray(3 + random.nextInt(size), 3 + random.nextInt(size), 1 + random.nextInt(size / 2));
                 break;
             case 2:
                 tiny();
@@ -170,7 +173,7 @@ public final class RandomTest {
     private void tree(int panels) {
         if (y.now.n() == 0) {
             int w = y.now.sheetW;
-            base(w / 3 + random.nextInt(5), w / 3 + random.nextInt(5), 1 + random.nextInt(20), 1 + random.nextInt(20));
+            base(w / 3 + random.nextInt(5), w / 3 + random.nextInt(5), 1 + random.nextInt(size), 1 + random.nextInt(size));
         }
         for (int i = 0; i < panels; i++) {
             addSome();
@@ -186,7 +189,7 @@ public final class RandomTest {
             offset = random.nextInt(length);
             length = 1 + random.nextInt(length - offset);
         }
-        int depth = 1 + random.nextInt(14);
+        int depth = 1 + random.nextInt(size);
         if (odds(50) && y.now.n() > 0) {
             int[] r = y.now.rect(random.nextInt(y.now.n()));
             depth = r[2 + random.nextInt(2)];
@@ -311,7 +314,7 @@ public final class RandomTest {
             case 10:
                 a = hung();
                 b = range(0, 2);
-                c = range(b == 0 ? 0 : 1, 20);
+                c = range(b == 0 ? 0 : 1, size);
                 due("setSize(" + a + ", " + b + ", " + c + ")", x.setSize(a, b, c), y.setSize(a, b, c));
                 break;
             case 11:
@@ -338,7 +341,7 @@ public final class RandomTest {
                 break;
             case 17:
                 a = range(0, 3);
-                b = range(0, a == 3 ? 100 : a == 0 ? 4 : 20);
+                b = range(0, a == 3 ? 100 : a == 0 && size < 60 ? 4 : 20);
                 due("setLimit(" + a + ", " + b + ")", x.setLimit(a, b), y.setLimit(a, b));
                 break;
             case 18:
